@@ -363,26 +363,34 @@ final class Model {
         return old;
     }
 
+    /** The best row, and behind it ALL by it. */
+    int[] bestRow() {
+        List<List<Integer>> rows = new ArrayList<>();
+        rows(new ArrayList<>(), begin(told).row, rows);
+        World w = now();
+        int[] best = new int[told.guests.size() + 1];
+        best[told.guests.size()] = 1 << 30;
+        for (List<Integer> row : rows) {
+            w.state.row = row;
+            int sum = total(w);
+            if (sum < best[row.size()]) {
+                for (int p = 0; p < row.size(); p++) {
+                    best[p] = row.get(p);
+                }
+                best[row.size()] = sum;
+            }
+        }
+        return best;
+    }
+
     private int best(String call, int... a) {
         switch (call) {
             case "order": {
                 if (a[0] != -1 && !isGuest(a[0])) {
                     return BAD;
                 }
-                List<List<Integer>> rows = new ArrayList<>();
-                rows(new ArrayList<>(), begin(told).row, rows);
-                World w = now();
-                int least = 1 << 30;
-                List<Integer> best = null;
-                for (List<Integer> row : rows) {
-                    w.state.row = row;
-                    int sum = total(w);
-                    if (sum < least) {
-                        least = sum;
-                        best = row;
-                    }
-                }
-                return a[0] == -1 ? least : best.get(a[0]);
+                int[] best = bestRow();
+                return best[a[0] == -1 ? best.length - 1 : a[0]];
             }
             case "cushion": {
                 int[] best = {0, 0, 1 << 30};
