@@ -1,85 +1,44 @@
 /** Each promise by examples worked out by hand from the document. */
-public final class PromiseTest {
-    private static final int BAD = -1, NO = -2, FULL = -3, NONE = -4;
+public final class PromiseTest extends Check {
     private static final int[] FAR = {Integer.MIN_VALUE, -1000, 1000, Integer.MAX_VALUE};
-    private static int wrong;
-    private static int checks;
-    private static int promise;
 
     public static void main(String[] args) {
-        promise = 0;
         constants();
-        promise = 1; aNewObject();
-        promise = 2; write();
-        promise = 3; wipe();
-        promise = 4; fault();
-        promise = 5; lay();
-        promise = 6; bed();
-        promise = 7; guest();
-        promise = 8; harm();
-        promise = 9; lies(); liesByLaws(); liesByRow();
-        promise = 10; who();
-        promise = 11; all();
-        promise = 12; move();
-        promise = 13; wear();
-        promise = 14; come();
-        promise = 15; undo();
-        promise = 16; order();
-        promise = 17; cushion();
-        promise = 18; length();
-        promise = 19; law();
-        promise = 20; pairs();
-        promise = 21; later();
-        promise = 22; rival();
-        promise = 23; fewest();
-        promise = 24; turned();
-        promise = 25; left();
-        promise = 26; sweep();
-        promise = 27; slept();
-        promise = 28; sure();
-        promise = 29; found();
-        promise = 30; year();
-        promise = 31; keep();
-        promise = 32; back();
-        promise = 33; count();
-        promise = 0; farNumbers();
-        System.out.println("PromiseTest: " + checks + " checks, " + wrong + " wrong");
-        System.exit(wrong == 0 ? 0 : 1);
-    }
-
-    private static void due(String what, int got, int want) {
-        checks++;
-        if (got != want) {
-            wrong++;
-            System.out.println("promise " + promise + ": " + what + " answered " + got + ", due is " + want);
-        }
-    }
-
-    private static void put(BedsThatFit x, String text) {
-        for (int k = 0; k < text.length(); k++) {
-            x.write(text.charAt(k));
-        }
-    }
-
-    private static BedsThatFit inn(String text) {
-        BedsThatFit x = new BedsThatFit();
-        put(x, text);
-        if (x.lay() < 1) {
-            due(text + " is laid", 0, 1);
-        }
-        return x;
-    }
-
-    private static void dueRow(BedsThatFit x, int... row) {
-        for (int p = 0; p < row.length; p++) {
-            due("guest(" + row[p] + ", 5)", x.guest(row[p], 5), p);
-        }
-    }
-
-    private static void dueCounts(BedsThatFit x, int... counts) {
-        for (int what = 0; what < counts.length; what++) {
-            due("count(" + what + ")", x.count(what), counts[what]);
-        }
+        promise(1); aNewObject();
+        promise(2); write();
+        promise(3); wipe();
+        promise(4); fault();
+        promise(5); lay();
+        promise(6); bed();
+        promise(7); guest();
+        promise(8); harm();
+        promise(9); lies(); liesByLaws(); liesByRow();
+        promise(10); who();
+        promise(11); all();
+        promise(12); move();
+        promise(13); wear();
+        promise(14); come();
+        promise(15); undo();
+        promise(16); order();
+        promise(17); cushion();
+        promise(18); length();
+        promise(19); law();
+        promise(20); pairs();
+        promise(21); later();
+        promise(22); rival();
+        promise(23); fewest();
+        promise(24); turned();
+        promise(25); left();
+        promise(26); sweep();
+        promise(27); slept();
+        promise(28); sure();
+        promise(29); found();
+        promise(30); year();
+        promise(31); keep();
+        promise(32); back();
+        promise(33); count();
+        farNumbers();
+        end("PromiseTest");
     }
 
     private static void constants() {
@@ -323,12 +282,6 @@ public final class PromiseTest {
         due("b -1", y.harm(0, -1, 0), BAD);
         due("n 30", y.harm(0, 0, 30), BAD);
         due("n -1", y.harm(0, 0, -1), BAD);
-    }
-
-    private static void dueLies(BedsThatFit x, int i, int... want) {
-        for (int what = 0; what < want.length; what++) {
-            due("lies(" + i + ", " + what + ")", x.lies(i, what), want[what]);
-        }
     }
 
     private static void lies() {
