@@ -35,7 +35,7 @@ public final class BedsThatFit {
     private static final int YEARS = 10000;
     private static final int NO_YEAR = -1;
     private static final int THOUSAND = 1000;
-    private static final int UNBOUNDED = Integer.MAX_VALUE;
+    private static final int UNBOUNDED = 1000000;
     private static final String FIRST_INN = "b60;b72;g66,0,0;g60,0,0;g75,0,0;h0,1;h0,2;";
 
     private final Script script = new Script();

@@ -52,6 +52,7 @@ final class BestEdges extends Edges {
         dueRow(alike, 6, 1, 2, 3, 4, 5, 0);
         dueOrder(inn("b60;g60,0,0;g60,0,0;g60,0,4;g60,0,0;k0;"), 0, 2, 0, 1, 3);
         dueOrder(inn("b60;g60,0,0;g60,0,0;g60,0,0;g59,0,4;k0;"), 0, 0, 3, 1, 2);
+        dueOrder(inn("b60;g60,0,0;g60,0,0;g60,0,0;g61,0,0;k0;"), 1, 0, 1, 2, 3);
     }
 
     private static void orderFirstAndLast() {
@@ -106,6 +107,8 @@ final class BestEdges extends Edges {
         dueCushion(inn("b60;g60,0,0;g60,0,0;k0;"), 0, 0, 0);
         dueCushion(inn("b60;g61,0,0;g61,0,0;k0;"), 0, -1, 1);
         dueCushion(inn("b60;g61,0,0;g62,0,0;k0;"), 1, -2, 1);
+        dueCushion(inn("b60;g62,0,0;g62,0,0;g61,0,0;k0;"), 0, -2, 3);
+        dueCushion(inn("b60;g69,0,3;g61,0,0;k0;"), 0, -9, 1);
         dueCushion(inn("b60;g60,0,0;g60,0,0;g60,0,0;g60,0,0;g60,0,0;g60,0,0;g99,0,0;k0;"), 6, -9, 30);
         dueCushion(inn("b60;g63,0,1;"), 0, -3, 0);
         dueCushion(inn("b60;g69,0,3;"), 0, -9, 0);
@@ -190,6 +193,7 @@ final class BestEdges extends Edges {
         duePairs("b60;b70;g70,0,0;g64,0,0;k0;", 1, 1);
         duePairs("b60;b70;g66,0,0;g60,0,0;k0;", 1, 1);
         duePairs("b60;b70;g70,0,0;g60,1,0;k0;", 0, NONE);
+        duePairs("b60;b90;b90;b63;g63,0,0;g90,0,0;g90,0,0;g60,0,0;k0;", 1, 3);
     }
 
     private static void pairsFirst() {

@@ -158,6 +158,13 @@ final class LeftEdges extends Edges {
         BedsThatFit x = inn("b60;g60,0,0;g62,0,0;g58,0,0;g63,0,0;g57,1,0;g60,1,0;g69,0,0;");
         x.left(0, 0, 2);
         due("of two", x.sure(0), NONE);
+        BedsThatFit one = inn("b60;g61,0,0;g60,0,0;");
+        one.left(0, 0, 0);
+        due("one way", one.sure(-1), 1);
+        due("of whom it is in that one", one.sure(0), 1);
+        one.left(0, 0, 1);
+        due("one way still", one.sure(-1), 1);
+        due("the first guest", one.sure(1), 0);
         x.left(0, 0, 0);
         due("of one, the first guest", x.sure(1), 0);
         due("two ways", x.sure(-1), 2);

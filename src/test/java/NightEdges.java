@@ -28,6 +28,7 @@ final class NightEdges extends Edges {
         lastEightUndone();
         undoneOneByOne();
         undoneAndChangedAgain();
+        oldestOfAnyForgotten();
     }
 
     private static void liesNumbers() {
@@ -112,6 +113,8 @@ final class NightEdges extends Edges {
         due("not the first of the row", x.who(0, 0), 2);
         x.wear(3, 1);
         due("the least harmed", x.who(0, 0), 3);
+        due("in this bed, as long as it is tonight", inn("b60;f0,5;g66,0,0;g60,0,0;k2;").who(0, 0), 0);
+        due("and not as it is told", inn("b60;f0,5;g60,0,0;g66,0,0;k2;").who(0, 0), 1);
         BedsThatFit y = inn("b60;g61,0,0;g59,0,0;g70,0,0;k2;");
         y.move(2, 0);
         due("lower than he himself", y.who(0, 0), 0);
@@ -233,6 +236,13 @@ final class NightEdges extends Edges {
         refused(House.NEW, NO, "undo");
         refused(x -> {
             x.wear(0, 1);
+            x.keep();
+            x.undo();
+            x.left(0, 0, 0);
+            put(x, "b60;g60,0,0;");
+        }, NO, "undo");
+        refused(x -> {
+            x.wear(0, 1);
             x.undo();
         }, NO, "undo");
         refused(x -> {
@@ -272,7 +282,8 @@ final class NightEdges extends Edges {
     }
 
     private static void undoneOneByOne() {
-        says(15, "WEAR other inches; come on another night");
+        says(15, "A GUEST can be MOVED to a place of THE ROW (the others stay as they are among themselves); "
+            + "WEAR other inches; come on another night. UNDONE is the latest of these");
         BedsThatFit x = inn("b60;g60,4,0;g60,0,0;g60,0,0;");
         x.move(2, 0);
         x.come(0, 7);
@@ -323,5 +334,38 @@ final class NightEdges extends Edges {
         }
         due("no more", x.undo(), NO);
         due("as the oldest left it", x.guest(1, 3), 102);
+    }
+
+    /** The k-th of changes of all kinds to all guests. */
+    private static void change(BedsThatFit x, int k) {
+        int i = k * 2 % 3;
+        switch (k % 4) {
+            case 0: x.wear(i, k); break;
+            case 1: x.come(i, k); break;
+            case 2: x.move(i, k % 3); break;
+            default: x.wear(i, -k); break;
+        }
+    }
+
+    private static void oldestOfAnyForgotten() {
+        says(15, "(the last 8 can be)");
+        for (int changes = 0; changes <= 9; changes++) {
+            BedsThatFit x = new BedsThatFit();
+            for (int k = 0; k < changes; k++) {
+                change(x, k);
+            }
+            for (int undone = 1; undone <= Math.min(8, changes); undone++) {
+                x.undo();
+                BedsThatFit without = new BedsThatFit();
+                for (int k = 0; k < changes - undone; k++) {
+                    change(without, k);
+                }
+                for (int i = 0; i < 3; i++) {
+                    due("worn", x.guest(i, 3), without.guest(i, 3));
+                    due("comes", x.guest(i, 1), without.guest(i, 1));
+                    due("place", x.guest(i, 5), without.guest(i, 5));
+                }
+            }
+        }
     }
 }

@@ -1,3 +1,6 @@
+import java.util.List;
+import java.util.function.Consumer;
+
 /** Edges of inns: the text, what it tells, beds, guests, harm (promises 1 to 8). */
 final class TextEdges extends Edges {
     private static final String FIRST_INN = "b60;b72;g66,0,0;g60,0,0;g75,0,0;h0,1;h0,2;";
@@ -25,6 +28,7 @@ final class TextEdges extends Edges {
         laidOrNot();
         laidAnew();
         laidWithoutWhatWas();
+        laidAsInANewObject();
         bedOnNights();
         guestAsked();
         harmNumbers();
@@ -100,7 +104,10 @@ final class TextEdges extends Edges {
         due("no fault", x.fault(), NONE);
         due("nothing to lay", x.lay(), NO);
         due("room again", x.write('b'), 1);
-        put(x, FULL_TEXT.substring(1));
+        put(x, "60");
+        due("nothing stands behind it from before", x.fault(), 0);
+        x.wipe();
+        put(x, FULL_TEXT);
         due("for 200", x.count(8), 200);
         due("and no more", x.write('b'), FULL);
     }
@@ -310,6 +317,29 @@ final class TextEdges extends Edges {
         due("no rival of before", x.rival(), 0);
         due("no order of before", x.order(-1), 10);
         due("told now", x.guest(1, 2), 4);
+    }
+
+    /** Whatever was told, tried and laid ahead of it, an inn is as it would be in a new object. */
+    private static void laidAsInANewObject() {
+        says(5, "LAID is a TEXT without FAULT");
+        String text = "b61;b70;g60,0,1;g50,0,4;g70,1,2;h0,1;";
+        Consumer<BedsThatFit> anew = x -> {
+            x.wipe();
+            put(x, text);
+            x.lay();
+        };
+        for (Seen look : Seen.values()) {
+            List<Integer> due = look.of(made(anew));
+            mustBe("laid behind another, by " + look, look.of(made(House.CROWDED.andThen(anew))).equals(due));
+            mustBe("laid twice, by " + look, look.of(made(House.CROWDED.andThen(anew).andThen(BedsThatFit::lay))).equals(due));
+            for (String other : new String[] {FULL_TEXT, "b99;f0,9;f29,9;f14,9;f28,9;g99,9,3;k0;r50;"}) {
+                Consumer<BedsThatFit> read = x -> {
+                    put(x, other);
+                    x.fault();
+                };
+                mustBe("behind one that was only read, by " + look, look.of(made(read.andThen(anew))).equals(due));
+            }
+        }
     }
 
     private static void bedOnNights() {
